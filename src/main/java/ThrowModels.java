@@ -751,29 +751,25 @@ public final class ThrowModels {
             return magnitude(bits) == 0;
         }
 
-        private int biasedExponent(long bits) {
-            return (int) (magnitude(bits) >>> fractionBits);
-        }
-
-        private long fraction(long bits) {
-            return bits & ((1L << fractionBits) - 1);
-        }
-
         /** By how many places a number below the normal ones lacks the leading bit. */
         private int missingPlaces(long bits) {
-            return biasedExponent(bits) == 0 ? fractionBits - highestBit(fraction(bits)) : 0;
+            long magnitude = magnitude(bits);
+            return magnitude < 1L << fractionBits ? fractionBits - highestBit(magnitude) : 0;
         }
 
         /** A finite number is significand * 2 ^ exponent; but for 0, the leading bit is set. */
         long significand(long bits) {
-            if (biasedExponent(bits) == 0) {
-                return fraction(bits) << missingPlaces(bits);
+            long leadingBit = 1L << fractionBits;
+            long magnitude = magnitude(bits);
+            if (magnitude < leadingBit) {
+                return magnitude << missingPlaces(bits);
             }
-            return fraction(bits) + (1L << fractionBits);
+            return magnitude & (leadingBit - 1) | leadingBit;
         }
 
         int exponent(long bits) {
-            return lowestExponent + Math.max(biasedExponent(bits) - 1, 0) - missingPlaces(bits);
+            int rank = (int) (magnitude(bits) >>> fractionBits);
+            return lowestExponent + Math.max(rank - 1, 0) - missingPlaces(bits);
         }
 
         /** The bits of significand * 2 ^ exponent, rounded; the significand is not below 0. */
@@ -792,7 +788,7 @@ public final class ThrowModels {
         }
 
         /** significand / 2 ^ places, to the nearest whole number, the even one in the middle. */
-        private static long rounded(long significand, int places) {
+        static long rounded(long significand, int places) {
             if (places <= 0) {
                 return significand << -places;
             }
@@ -821,7 +817,6 @@ public final class ThrowModels {
     private static final class Reals {
         private static final long SIGN = 0x8000000000000000L;
         private static final long ONE = 0x3ff0000000000000L;
-        private static final long TWO_TO_52 = 0x4330000000000000L;
         private static final int BIAS = 1023;
         /** How far a sum's parts are moved up, so that what is lost of them is below the rounding. */
         private static final int GUARD_PLACES = 9;
@@ -1051,13 +1046,12 @@ public final class ThrowModels {
             return raised & ~partBelowOne;
         }
 
-        /** Adding 2 ^ 52 leaves no place below the whole ones, so that the sum does the rounding. */
         private static long nearestWhole(long a) {
             if (power(a) >= Format.DOUBLE.fractionBits) {
                 return a;
             }
-            long raised = sum(Format.DOUBLE.magnitude(a), TWO_TO_52);
-            return a & SIGN | difference(raised, TWO_TO_52);
+            long whole = Format.rounded(Format.DOUBLE.significand(a), -Format.DOUBLE.exponent(a));
+            return Format.DOUBLE.pack(a < 0, 0, whole);
         }
 
         private static long distanceToNext(long a) {

@@ -104,7 +104,9 @@ public final class ThingsTest {
 
     private static void promise2MakeRows() {
         works("make(7, 7, 3, 2)", x.make(7, 7, 3, 2), 1);
-        works("cross(7, 2, 1)", x.cross(7, 2, 1), 0);
+        for (int i = 0; i < 3; i++) {
+            works("cross(7, i, 1)", x.cross(7, i, 1), 0);
+        }
         throwsNow("cross(7, 2, 2)", x.cross(7, 2, 2), INDEX);
         x.take(7, 7, 0, 0);
         x.take(7, 7, 1, 1);
@@ -627,6 +629,7 @@ public final class ThingsTest {
         answersAre(10, 7, 7, 14, 50, 1007, 2, 7, 142);
         answersAre(11, 7, 14, 142, 50, 1027, 4, 14, 142);
         answersAre(12, 7, 15, 145, 500, 1030, 0, 15, 142);
+        answersAre(10, 1, 1, 2, 8, 1001, 1, 1, 1000);
         answersAre(10, -7, -7, -14, -48, 993, -2);
         throwsNow("trouble of a plain", x.call(0, 5), OWN);
         works("deep of a plain", x.call(0, 6), -142);
