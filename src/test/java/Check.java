@@ -3,8 +3,18 @@ final class Check {
     private static final int SHOWN = 40;
     private static long compared = 0;
     private static long wrong = 0;
+    private static String part = "";
 
     private Check() {
+    }
+
+    /** What is compared from here on, told ahead of each answer that differs. */
+    static void begin(String name) {
+        part = name + ": ";
+    }
+
+    static long compared() {
+        return compared;
     }
 
     static void due(String call, long got, long want) {
@@ -29,7 +39,7 @@ final class Check {
     static void wrong(String what) {
         wrong++;
         if (wrong <= SHOWN) {
-            System.out.println(what);
+            System.out.println(part + what);
         }
     }
 
