@@ -1,5 +1,10 @@
 /** Promise 13 with COPIED of section 2: copies of all, of nothing, within one array, and such that stop in the midst. */
 final class CopyTest extends Cases {
+    /** i, j and n of which at least one is below 0 or beyond arrays of 4. */
+    private static final int[][] NOT_INSIDE = {
+        {-1, -1, -1}, {-1, 0, 0}, {0, -1, 0}, {0, 0, -1}, {5, 0, 0}, {0, 5, 0}, {0, 0, 5}, {4, 0, 1}, {0, 4, 1}, {MAX, MAX, MAX},
+    };
+
     public static void main(String[] args) {
         run(CopyTest.class);
     }
@@ -151,30 +156,43 @@ final class CopyTest extends Cases {
     // ---- what is looked at, in order
 
     static void promise13NothingIsNullAheadOfStoreAndIndex() {
-        for (int kind = 0; kind <= 12; kind++) {
-            fails(EMPTY, -1, kind, -1, -1, NULL);
-            fails(kind, -1, EMPTY, -1, -1, NULL);
+        for (int[] at : NOT_INSIDE) {
+            x = full();
+            for (int kind = 0; kind <= EMPTY; kind++) {
+                fails(EMPTY, at[0], kind, at[1], at[2], NULL);
+                fails(kind, at[0], EMPTY, at[1], at[2], NULL);
+            }
+        }
+        for (int kind = 0; kind <= EMPTY; kind++) {
             fails(EMPTY, 0, kind, 0, 0, NULL);
             fails(kind, 0, EMPTY, 0, 0, NULL);
         }
-        fails(EMPTY, 0, EMPTY, 0, 0, NULL);
     }
 
     static void promise13OwnThingsAreStoreAheadOfIndex() {
         for (int own : OWN_TYPES) {
+            x = full();
             for (int kind = 0; kind <= 12; kind++) {
                 fails(own, 0, kind, 0, 0, STORE);
                 fails(kind, 0, own, 0, 0, STORE);
-                fails(kind, -1, own, -1, -1, STORE);
+            }
+            for (int[] at : NOT_INSIDE) {
+                fails(own, at[0], own, at[1], at[2], STORE);
+                fails(own, at[0], 0, at[1], at[2], STORE);
+                fails(0, at[0], own, at[1], at[2], STORE);
+                fails(8, at[0], own, at[1], at[2], STORE);
             }
         }
     }
 
     static void promise13UnlikeKindsAreStoreAheadOfIndex() {
         for (int from = 0; from <= 9; from++) {
+            x = full();
             for (int to = 0; to <= 9; to++) {
                 boolean fits = from == to || from >= 7 && to >= 7;
-                fails(from, -1, to, 0, 0, fits ? INDEX : STORE);
+                for (int[] at : NOT_INSIDE) {
+                    fails(from, at[0], to, at[1], at[2], fits ? INDEX : STORE);
+                }
             }
         }
     }
